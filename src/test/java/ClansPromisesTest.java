@@ -20,6 +20,14 @@ public final class ClansPromisesTest {
         RubberBandsHoldFamilies x = Due.town("p00;p00;p00;p00;p00;b0043;b0003;b0012;b0004;");
         due.is(22, "how many", x.clans(0), 2);
         due.is(22, "the greatest", x.clans(1), 3);
+        RubberBandsHoldFamilies y = Due.town("p00;p00;p00;b0012;");
+        due.is(22, "the first one alone", y.clans(0), 2);
+        y.cuts(0);
+        due.is(22, "each alone", y.clans(0) * 10 + y.clans(1), 31);
+        RubberBandsHoldFamilies z = Due.town("p00;p00;p00;p00;p00;p00;p00;b0056;b0045;b0034;b0023;b0012;b0001;");
+        due.is(22, "a chain of all", z.clans(0) * 10 + z.clans(1), 17);
+        z.cuts(0);
+        due.is(22, "the last one alone", z.clans(0) * 10 + z.clans(1), 26);
         x.cuts(1);
         due.is(22, "tied by the others still", x.clans(0), 2);
         x.cuts(0);

@@ -28,6 +28,8 @@ public final class LooksPromisesTest {
         x.cuts(2);
         lurch(x, 3, 2);
         lurch(x, 1, 2, 0);
+        x.goes(1, 5);
+        lurch(x, 1, 2, 0, 30, -30);
         Due.fill(x, 0, 1, 0, 0, 0, 0);
         due.is(27, "more than people", x.lurch(0, 0), -13);
         due.is(27, "no such what", x.lurch(0, 2), -1);
@@ -114,6 +116,8 @@ public final class LooksPromisesTest {
         due.is(29, "the other one steps", z.two(1, 0), 1);
         // 0 can't step; 1 can.
         due.is(29, "the one that can", Due.town("p00;p09;b7501;").two(1, 0), 10);
+        due.is(29, "to 0 and to 30 one can", Due.town("p01;p29;").two(0, 1), 11);
+        due.is(29, "to 30 and to 0 one can", Due.town("p29;p01;").two(0, 1), 11);
         // They do not GO: nothing is tried, a red one (holds 3) of stretch 3 pulls 4 then.
         due.is(29, "not tried", Due.town("p10;p13;b3001;b3001;b3001;b3001;").two(0, 1), 0);
     }
@@ -163,6 +167,7 @@ public final class LooksPromisesTest {
         mean(x, 0, 1);
         mean(Due.town("p00;p10;p05;b0001;b0002;b0012;b0012;b0012;b0012;"), 23, 6);
         mean(Due.town("p00;p06;p00;b0001;b0002;"), 2, 1);
+        mean(Due.town("p00;p05;b0001;"), 3, 1);
         mean(Due.town("p00;p00;b0001;b0001;b0001;"), 0, 1);
     }
 

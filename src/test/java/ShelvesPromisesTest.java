@@ -123,6 +123,9 @@ public final class ShelvesPromisesTest {
         due.is(43, "of two sorts", x.copy(0, 0, 2, 0, 1), -12);
         due.is(43, "to a kind", x.copy(0, 0, 3, 0, 1), -12);
         due.is(43, "from a kind", x.copy(3, 0, 0, 0, 1), -12);
+        x.row(5, 0, 3);
+        due.is(43, "of bytes to a kind", x.copy(5, 0, 3, 0, 1), -12);
+        due.is(43, "of a kind to bytes", x.copy(3, 0, 5, 0, 1), -12);
         due.is(43, "-12 ahead of -13", x.copy(0, 0, 2, 0, -1), -12);
         due.is(43, "to nothing", x.copy(0, 0, 4, 0, 1), -11);
         due.is(43, "from nothing", x.copy(4, 0, 0, 0, 1), -11);

@@ -84,6 +84,10 @@ public final class ToldPromisesTest {
         due.is(35, "no such what", x.generations(1, 1, 2), -1);
         due.is(35, "no such what", x.generations(1, 1, -1), -1);
         x = Due.town("p10;p14;p20;p22;b0001;b4512;b1023;b6901;b7913;b2002;b0930;x3;");
+        RubberBandsHoldFamilies alone = Due.town("p05;");
+        due.is(35, "one alone", alone.generations(20, 9, 0) + alone.generations(20, 9, 1), 0);
+        x.goes(3, 0);
+        due.holds("somebody is stung already", x.count(5) > 0);
         for (int z : new int[] {0, 1, 7, -1, 123456789, Integer.MIN_VALUE, Integer.MAX_VALUE}) {
             compareGenerations(x, 1, z);
             compareGenerations(x, 20, z);

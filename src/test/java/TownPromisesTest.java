@@ -55,6 +55,13 @@ public final class TownPromisesTest {
         due.is(2, "a third person", x.person(2, 0), 30);
         due.is(2, "a second band, cut", x.count(4), 3);
         due.is(2, "nobody stung by a cut", x.count(5), 2);
+        // The next text goes on from what the calls have made meanwhile.
+        x.goes(1, 3);
+        x.years(2);
+        Due.write(x, 0, "y01;");
+        due.is(2, "one more year", x.town(0), 1);
+        due.is(2, "three years more", x.count(2), 4);
+        due.is(2, "gone meanwhile", x.person(1, 0), 3);
         due.is(2, "no year", Due.answerTo("p00;y60;y60;y60;y60;"), 5);
         due.is(2, "all years", Due.answerTo("y60;".repeat(16) + "y39;"), 17);
         due.is(2, "a hundred bytes", Due.answerTo("c0;".repeat(32) + "p00;"), 33);
@@ -155,6 +162,11 @@ public final class TownPromisesTest {
         due.is(3, "no such one", x.person(-1, 0), -1);
         due.is(3, "no such what", x.person(0, 4), -1);
         due.is(3, "no such what", x.person(0, -1), -1);
+        // One place apart counts, and none does not.
+        RubberBandsHoldFamilies near = Due.town("p05;p06;p05;b5001;b5002;");
+        due.is(3, "right, by one", near.person(0, 3), 2);
+        due.is(3, "left, by one", near.person(1, 2), 2);
+        due.is(3, "left, at one place", near.person(2, 2) + near.person(2, 3), 0);
         // Halves are cut: of figure 1 a marriage's slack is 3 by 2, a knot's holds 9 by 2.
         x.keep(0, 1, 1, 1);
         due.is(6, "ties", x.ties(0, 0, 1), 8);
@@ -178,6 +190,23 @@ public final class TownPromisesTest {
             due.is(3, "not stung", x.person(p, 1), 0);
         }
         due.is(5, "no room", x.comes(0), -2);
+        // Who comes, and what is tied, where there was one ahead of THE IMAGE's RESTORING is new.
+        RubberBandsHoldFamilies y = new RubberBandsHoldFamilies();
+        y.image();
+        y.comes(0);
+        y.comes(9);
+        y.keep(0, 1, 0, 0);
+        y.ties(0, 0, 1);
+        y.years(7);
+        y.goes(0, 30);
+        due.is(3, "stung", y.person(0, 1), 1);
+        y.restore();
+        y.comes(0);
+        y.comes(3);
+        due.is(5, "not stung", y.person(0, 1) + y.person(1, 1), 0);
+        y.ties(0, 0, 1);
+        due.is(6, "not old", y.band(0, 4), 0);
+        due.is(6, "not snapped", y.band(0, 5), 0);
         due.is(5, "no place ahead of no room", x.comes(31), -1);
     }
 
@@ -234,6 +263,7 @@ public final class TownPromisesTest {
         due.is(8, "6", x.cold(6), 1);
         due.is(8, "0", x.cold(0), 0);
         due.is(38, "cold", x.count(3), 0);
+        due.is(38, "one snapped by each cold", x.count(4), 3);
         // A red one holds 3: never less than 0.
         RubberBandsHoldFamilies y = Due.town("p00;p00;b3001;");
         y.cold(9);
@@ -269,6 +299,7 @@ public final class TownPromisesTest {
         // Tried ahead of the steps, too: 10 years old, a red one (figure 0) of stretch 2 has come to hold 1.
         RubberBandsHoldFamilies v = Due.town("p10;p10;b3001;y09;g112;");
         due.is(9, "worn out ahead of the step", v.years(1), 1);
+        due.is(9, "in those years only", v.years(1), 0);
         due.is(9, "so nobody stepped", v.person(0, 0) * 100 + v.person(1, 0), 1012);
         // A step away from the one band can snap another: tried again behind the steps.
         RubberBandsHoldFamilies z = Due.town("p10;p13;p00;p23;b3001;b5002;b5013;");

@@ -41,6 +41,7 @@ public final class YearsPromisesTest {
         // 0 may not go to the middle: the red one (figure 0, holds 3) keeps 0 within 3 of 12.
         RubberBandsHoldFamilies z = Due.town("p12;p10;p30;p12;b5001;b5002;b3003;");
         due.is(12, "as near as one may go", z.rest(0), 15);
+        due.is(12, "where the other one is", x.rest(1), 12);
         due.is(12, "no such one", z.rest(4), -1);
         due.is(12, "no such one", z.rest(-1), -1);
         due.is(12, "nobody went", z.person(0, 0), 12);
@@ -104,5 +105,13 @@ public final class YearsPromisesTest {
         due.is(14, "behind it", w.snappedIn(15), 1);
         w.years(14);
         due.is(16, "from now", w.firstSnap(0), 1);
+        // Found by search: one that is worn out in the last year looked at, and one in the year behind it.
+        due.is(16, "60", Due.town("p03;p05;p00;p02;b5531;b5402;b1130;").firstSnap(0), 60);
+        RubberBandsHoldFamilies late = Due.town("p02;p01;p00;p02;p02;b1113;b5612;b3520;b4421;b5034;b0230;y04;");
+        int before = late.count(4);
+        due.is(16, "61", late.firstSnap(0), -4);
+        due.is(14, "60", late.snappedIn(60), before);
+        late.years(1);
+        due.is(16, "60 from now", late.firstSnap(0), 60);
     }
 }
