@@ -1048,12 +1048,16 @@ public final class RubberBandsHoldFamilies {
         int endOfTheRoad(int p, int side) {
             mind.becomes(now);
             int reached = now.place[p];
-            for (int at = reached + side; at >= 0 && at <= LAST_PLACE; at += side) {
-                mind.place[p] = at;
+            for (int steps = 1; steps <= LAST_PLACE; steps++) {
+                int next = reached + side;
+                if (!isUpTo(next, LAST_PLACE)) {
+                    return reached;
+                }
+                mind.place[p] = next;
                 if (mind.overstretched(mind.cold) != 0) {
                     return reached;
                 }
-                reached = at;
+                reached = next;
             }
             return reached;
         }

@@ -78,6 +78,8 @@ public final class YearsPromisesTest {
         due.is(15, "four years", Due.town("p00;p09;b0001;").still(), 4);
         // Two widows of odd distance swap sides for ever.
         due.is(15, "never", Due.town("p00;p03;b5001;").still(), -4);
+        // Four steps and four snappings in the first year do not make up for one another.
+        due.is(15, "five years", Due.town("p10;p13;p00;p23;b3001;b3001;b3001;b3001;b5002;b5013;").still(), 5);
         // Counted from now: the knot (slack 1) of 4 apart has drawn them to 2 apart.
         RubberBandsHoldFamilies x = Due.town("p10;p14;b4001;");
         x.years(1);
