@@ -148,8 +148,8 @@ final class SlowFamilies {
                 row.elements[g[1]] = row.sort == 0 ? (byte) g[2] : row.sort == 1 ? (short) g[2] : g[2];
                 return 0;
             case "element":
-                if (!shelf) return 2000000000001L;
-                return row == null || !in(g[1], 0, row.elements.length - 1) ? 2000000000002L : row.elements[g[1]];
+                if (!shelf) return Calls.NO_SHELF;
+                return row == null || !in(g[1], 0, row.elements.length - 1) ? Calls.NO_PLACE : row.elements[g[1]];
             case "keep":
                 if (!shelf || !in(g[1], 0, 1) || g[1] == 1 && !(in(g[2], 0, 7) && in(g[3], 0, 9))) return -1;
                 shelves[g[0]] = g[1] == 0 ? null : new int[] {g[2], g[3]};
