@@ -449,8 +449,8 @@ public final class LooksEdgesTest {
         judged(-4, 2, Edges.LEAST);
         judged(0, 2, Edges.LEAST + 1);
         judged(0, 2, LEAST_SHORT);
-        // The red one snaps in the 15th year; the row tells of 99, which are more than there are in this town.
-        edge.town("y60;".repeat(16) + "p10;p11;b3001;b3001;x0;");
+        // The red one snaps in the 15th year, though there is none to come in this town; the row tells of 99.
+        edge.town("y60;".repeat(16) + "y39;p10;p11;b3001;b3001;x0;");
         edge.due("row 0 0 100", 0);
         for (int n = 0; n < 100; n++) {
             edge.due("put 0 " + n + " " + (n < 15 ? 1 : 2), 0);

@@ -603,6 +603,12 @@ public final class PromiseEdgesTest {
         edge.due("copy 5 0 5 0 100", 100);
         edge.due("copy 5 1 5 0 99", 99);
         edge.asks("element 5 98", 9);
+        // Onto itself to the right: what was there ahead of it comes, not what it has brought.
+        edge.row(7, 0, 1, 2, 3);
+        edge.due("copy 7 0 7 1 2", 2);
+        edge.asks("element 7 0", 1);
+        edge.asks("element 7 1", 1);
+        edge.asks("element 7 2", 2);
         edge.refused("copy 5 0 6 0 101", -13);
         edge.refused("copy 5 1 6 0 100", -13);
     }

@@ -95,6 +95,12 @@ public final class WaysEdgesTest {
         edge.asks("placeIn 0 59", 10);
         edge.asks("placeIn 0 60", 11);
         edge.asks("snappedIn 60", 0);
+        edge.more("p20;p21;b3023;");
+        edge.asks("snappedIn 14", 0);
+        edge.asks("snappedIn 15", 2);
+        edge.asks("firstSnap 0", 15);
+        edge.due("cuts 0", 1);
+        edge.asks("still", 15);
         // What is snapped already is told, too.
         edge.town("p00;p00;b0001;b0001;x1;");
         edge.asks("snappedIn 0", 2);
