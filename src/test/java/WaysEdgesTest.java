@@ -229,6 +229,14 @@ public final class WaysEdgesTest {
         // Only the last may go ahead of the first: all between stay in their order, as early as can be.
         edge.town("p14;p24;p24;p24;p24;p24;p07;b0006;");
         order(0, 1, 2, 3, 4, 5, 6, 0);
+        // What was weighed for the town before does not matter any more: now the other one is the farther one.
+        edge.town("p00;p10;p20;p20;p20;b0001;");
+        order(0, 0, 1, 2, 3, 4);
+        edge.due("goes 0 10", 0);
+        edge.due("goes 1 0", 0);
+        order(0, 1, 0, 2, 3, 4);
+        edge.due("cuts 0", 1);
+        order(0, 0, 1, 2, 3, 4);
     }
 
     private static void order(int fewest, int... people) {
